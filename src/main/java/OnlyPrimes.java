@@ -515,7 +515,7 @@ public final class OnlyPrimes {
         final Slots tos = new Slots(MOST_GOS);
         final Slots bands = new Slots(MOST_GOS);
 
-        static int bit(int a, int b) {
+        private static int bit(int a, int b) {
             return 1 << CORNERS * a + b;
         }
 
@@ -1147,6 +1147,7 @@ public final class OnlyPrimes {
         private final int[] choices = new int[MOST_STATES];
         private int choiceCount;
         private final int[] path = new int[MOST_STATES];
+        /** Of those at one corner, where in a state they stand. */
         private final int[] group = new int[MOST_PEOPLE];
         private final int[] goers = new int[CORNERS];
 
@@ -1208,7 +1209,7 @@ public final class OnlyPrimes {
             hours[from] = 0;
             queue[0] = from;
             int found = 1;
-            for (int i = 0; i < found && found < stateCount(); i++) {
+            for (int i = 0; i < MOST_STATES && i < found && found < stateCount(); i++) {
                 findNear(queue[i]);
                 for (int j = 0; j < nearCount; j++) {
                     int state = near[j];
@@ -1263,8 +1264,9 @@ public final class OnlyPrimes {
         private int gather(int state, int corner) {
             int size = 0;
             for (int person = 0; person < people; person++) {
-                if (corner(state, person) == corner && size < MOST_PEOPLE) {
-                    group[size] = person;
+                int shift = shift(person);
+                if ((state >> shift & 3) == corner && size < MOST_PEOPLE) {
+                    group[size] = shift;
                     size++;
                 }
             }
@@ -1291,10 +1293,10 @@ public final class OnlyPrimes {
             for (int i = 0; i < size; i++) {
                 int to = choice >> 2 * i & 3;
                 goers[to]++;
-                part |= to << shift(group[i]);
+                part |= to << group[i];
             }
             for (int to = 0; to < CORNERS; to++) {
-                boolean isWay = (ways & Land.bit(corner, to)) != 0;
+                boolean isWay = (ways >> CORNERS * corner + to & 1) == 1;
                 boolean canGo = isWay && (fitting >> goers[to] & 1) == 1;
                 if (to != corner && goers[to] > 0 && !canGo) {
                     return NONE;

@@ -16,7 +16,7 @@ public final class ModelTest {
     }
 
     public static void main(String[] args) {
-        int runs = args.length > 0 ? Integer.parseInt(args[0]) : 400;
+        int runs = args.length > 0 ? Integer.parseInt(args[0]) : 1500;
         for (int run = 0; run < runs && !Check.isWrong(); run++) {
             ModelTest test = new ModelTest(run);
             for (int step = 0; step < 100 && !Check.isWrong(); step++) {
@@ -245,6 +245,7 @@ public final class ModelTest {
     private static final class DayWriter {
         private static final String[] ODD = {"", " ", ";", ";;", "wa", "ways", "go", "one", "way",
             "4", "9", "24", "007", "000", "12345678901", "-", "\n", "Z", "\u00e9", "\u0080", "a", "x1", "1x", "0", "1"};
+        private static final int MANY = 19;
         private final ModelTest dice;
         private final StringBuilder text = new StringBuilder();
 
@@ -306,8 +307,7 @@ public final class ModelTest {
         }
 
         private void gos(int people) {
-            // Short items of one person come to more than 24 gos in 200 bytes.
-            int gos = any(10) == 0 ? 26 : any(7);
+            int gos = any(10) == 0 ? MANY : any(7);
             int hour = any(4);
             for (int i = 0; i < gos && people > 0; i++) {
                 put("go");
@@ -316,12 +316,12 @@ public final class ModelTest {
                 number(any(4));
                 int mask = 1 + any((1 << people) - 1);
                 for (int p = 0; p < people; p++) {
-                    if ((mask >> p & 1) == 1 && (gos < 26 || mask >> p == 1)) {
+                    if ((mask >> p & 1) == 1 && (gos < MANY || mask >> p == 1)) {
                         number(any(50) == 0 ? any(7) : p);
                     }
                 }
                 put(";");
-                hour = any(40) == 0 ? any(24) : Math.min(23, hour + any(gos < 26 ? 3 : 2));
+                hour = any(40) == 0 ? any(24) : Math.min(23, hour + any(gos < MANY ? 3 : 2));
             }
         }
     }
