@@ -25,6 +25,10 @@ final class Check {
         return wrong > 0;
     }
 
+    static int rows() {
+        return rows;
+    }
+
     static void end() {
         System.out.println(rows + " rows, " + wrong + " not as due");
         if (wrong > 0 || rows == 0) {

@@ -6,9 +6,13 @@ public final class ModelTest {
 
     private static final int MOST_LOGGED = 4000;
 
+    /** An object is used for 512 calls at most; a step takes fewer than what is left. */
+    private static final int MOST_CALLS = 400;
+
     private final OnlyPrimes program = new OnlyPrimes();
     private final Model model = new Model();
     private final StringBuilder log = new StringBuilder();
+    private int calls;
     private long seed;
 
     private ModelTest(long seed) {
@@ -16,10 +20,10 @@ public final class ModelTest {
     }
 
     public static void main(String[] args) {
-        int runs = args.length > 0 ? Integer.parseInt(args[0]) : 1500;
+        int runs = args.length > 0 ? Integer.parseInt(args[0]) : 2500;
         for (int run = 0; run < runs && !Check.isWrong(); run++) {
             ModelTest test = new ModelTest(run);
-            for (int step = 0; step < 100 && !Check.isWrong(); step++) {
+            for (int step = 0; step < 100 && test.calls < MOST_CALLS && !Check.isWrong(); step++) {
                 test.step(run);
             }
             if (Check.isWrong()) {
@@ -49,6 +53,7 @@ public final class ModelTest {
     }
 
     private void same(String call, long got, long want) {
+        calls++;
         log.append("\n  ").append(call).append(" = ").append(got);
         Check.due(call, got, want);
     }

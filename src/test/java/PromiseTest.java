@@ -71,8 +71,13 @@ public final class PromiseTest {
 
     private static int type(String text) {
         int bytes = x.count(3);
-        for (int i = 0; i < text.length(); i++) {
-            bytes = x.type(text.charAt(i), 1);
+        for (int i = 0; i < text.length(); i += 8) {
+            int end = Math.min(i + 8, text.length());
+            long v = 0;
+            for (int j = i; j < end; j++) {
+                v = v << 8 | text.charAt(j);
+            }
+            bytes = x.type(v, end - i);
         }
         return bytes;
     }
@@ -275,9 +280,6 @@ public final class PromiseTest {
     }
 
     private static void faults() {
-        fresh(8);
-        x.one(0, 1);
-        x.way(0, 1, true);
         String[] days = {"wat 0 1;", "0", "WAY 0 1;", "0", "wayy 0 1;", "0", "bay 0 1;", "0", "wey 0 1;", "0", "o 0 1;", "0", "wa y 0 1;", "0",
             ";", "0", "0", "0", "  \t", "2", "way 0 1;\n", "8", "way", "3", "way  ", "5", "way 0", "5",
             "way 0 1", "7", "way 0 1 ", "8", "way 0 1 2;", "8", "way 0;", "5", "way ;", "4",
@@ -295,7 +297,9 @@ public final class PromiseTest {
             "one 0 1;one 0 1;one 0 1;one 0 1;one 0 1;go 0 0 1 0 1 2 3 4 0;", "59", "\u0080", "0", "\u00ff", "0"};
         for (int i = 0; i + 1 < days.length; i += 2) {
             String day = days[i];
-            x.clear();
+            fresh(8);
+            x.one(0, 1);
+            x.way(0, 1, true);
             type(day);
             notSo("read " + day, -10 - Integer.parseInt(days[i + 1]), () -> x.read());
         }
