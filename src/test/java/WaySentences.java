@@ -55,8 +55,12 @@ final class WaySentences extends Sentences {
             land("way 0 1;" + times(5, "one 0 1;"));
             due("five by primes", x.soonest(PRIMES), 1);
             due("five by squares: four and one", x.soonest(SQUARES), 2);
-            x.told(bits(5));
-            due("five by told", x.soonest(TOLD), 1);
+            for (int n = 1; n <= 5; n++) {
+                x.told(bits(n));
+                due("five, told " + n, x.soonest(TOLD), n == 1 ? 5 : n == 5 ? 1 : -1);
+                x.told(0);
+                due("five, none told", x.soonest(TOLD), -1);
+            }
             land("way 0 2;way 1 2;one 0 2;one 1 2;");
             due("from two CORNERS to one: two of one", x.soonest(SQUARES), 1);
             due("no company of two", x.soonest(PRIMES), -1);
@@ -142,6 +146,46 @@ final class WaySentences extends Sentences {
                     due("to HOME", x.at(TOLD, 1, person), corner);
                     x.told(30);
                     due("no more alone", x.soonest(TOLD) == 1 ? 1 : 0, 0);
+                }
+            }
+        });
+        sentence(18, "hour by hour each of PEOPLE stays or goes a WAY;", () -> {
+            // With all WAYS and all sizes each can be anywhere in an hour, wherever all the others go.
+            for (int i = 0; i < 400; i++) {
+                fresh();
+                x.told(31);
+                int from = 37 * i % 1024;
+                int to = (611 * i + 5) % 1024;
+                StringBuilder day = new StringBuilder(ways);
+                for (int person = 0; person < 5; person++) {
+                    day.append("one").append(from >> 2 * person & 3).append(' ').append(to >> 2 * person & 3).append(';');
+                }
+                land(day.toString());
+                due("all at once", x.soonest(TOLD), from == to ? 0 : 1);
+                due("nobody never", x.never(TOLD), 0);
+                for (int person = 0; person < 5 && from != to; person++) {
+                    due("at HOME, " + person, x.at(TOLD, 1, person), to >> 2 * person & 3);
+                }
+            }
+        });
+        sentence(19, "Where one of PEOPLE is behind an hour (0 on) of ROW.", () -> {
+            for (int pair = 0; pair < 25; pair++) {
+                int goer = pair / 5;
+                int other = pair % 5;
+                for (int home = 1; home < 4 && goer != other; home++) {
+                    fresh();
+                    x.told(31);
+                    for (int start = 0; start < 4; start++) {
+                        StringBuilder day = new StringBuilder(ways);
+                        for (int person = 0; person < 5; person++) {
+                            day.append("one").append(person == other ? start : 0);
+                            day.append(' ').append(person == goer ? home : 0).append(';');
+                        }
+                        land(day.toString());
+                        due("START of " + other, x.at(TOLD, 0, other), start);
+                        due("HOME of " + goer, x.at(TOLD, 1, goer), home);
+                        due("HOME of " + other, x.at(TOLD, 1, other), 0);
+                    }
                 }
             }
         });
